@@ -23,9 +23,9 @@ public final class DreamLedger {
     private static final long DIGEST_START = 1867;
     private static final long DIGEST_FACTOR = 31;
 
-    private final TagTree tree = new TagTree();
-    private final TermList wanted = new TermList();
-    private final CoverSearch search = new CoverSearch();
+    private final TagTree tagTree = new TagTree();
+    private final TermList termList = new TermList();
+    private final CoverSearch coverSearch = new CoverSearch();
 
     private final int[] ownTags = new int[MOST_DREAMS];
     private final int[] tagSets = new int[MOST_DREAMS];
@@ -40,23 +40,23 @@ public final class DreamLedger {
     // ---- tags
 
     public int addTag() throws IllegalStateException {
-        if (tree.count >= MOST_TAGS) {
+        if (tagTree.count >= MOST_TAGS) {
             throw new IllegalStateException("there are 16 tags");
         }
-        return tree.grow();
+        return tagTree.grow();
     }
 
     public int putUnder(int tag, int parent)
             throws IndexOutOfBoundsException, IllegalArgumentException, IllegalStateException {
         requirePlaceUnder(tag, parent);
-        hang(tag, parent);
-        return tree.countAbove(tag);
+        moveTag(tag, parent);
+        return tagTree.countAbove(tag);
     }
 
     public int freeTag(int tag) throws IndexOutOfBoundsException, IllegalStateException {
         requireParent(tag);
-        int before = tree.parents[tag];
-        hang(tag, NONE);
+        int before = tagTree.parents[tag];
+        moveTag(tag, NONE);
         return before;
     }
 
@@ -75,7 +75,7 @@ public final class DreamLedger {
         dreamCount++;
         vividnesses[dream] = vividness;
         writtenIn[dream] = nightCount;
-        own(dream, 1 << tag);
+        setOwnTags(dream, 1 << tag);
         return dream;
     }
 
@@ -85,7 +85,7 @@ public final class DreamLedger {
         if (isIn(tag, ownTags[dream])) {
             throw new IllegalStateException("the tag is one of the dream's own");
         }
-        own(dream, ownTags[dream] | 1 << tag);
+        setOwnTags(dream, ownTags[dream] | 1 << tag);
         return Integer.bitCount(ownTags[dream]);
     }
 
@@ -98,7 +98,7 @@ public final class DreamLedger {
         if (ownTags[dream] == 1 << tag) {
             throw new IllegalStateException("the tag is the only one of the dream's own");
         }
-        own(dream, ownTags[dream] & ~(1 << tag));
+        setOwnTags(dream, ownTags[dream] & ~(1 << tag));
         return Integer.bitCount(ownTags[dream]);
     }
 
@@ -151,8 +151,8 @@ public final class DreamLedger {
     }
 
     public int clearTerms() {
-        int before = wanted.count;
-        wanted.count = 0;
+        int before = termList.count;
+        termList.count = 0;
         return before;
     }
 
@@ -160,34 +160,34 @@ public final class DreamLedger {
 
     public boolean hasParent(int tag) throws IndexOutOfBoundsException {
         requireTag(tag);
-        return tree.parents[tag] != NONE;
+        return tagTree.parents[tag] != NONE;
     }
 
     public int parentOf(int tag) throws IndexOutOfBoundsException, IllegalStateException {
         requireParent(tag);
-        return tree.parents[tag];
+        return tagTree.parents[tag];
     }
 
     public int tagsAbove(int tag) throws IndexOutOfBoundsException {
         requireTag(tag);
-        return tree.countAbove(tag);
+        return tagTree.countAbove(tag);
     }
 
     public int tagsBelow(int tag) throws IndexOutOfBoundsException {
         requireTag(tag);
-        return tree.countBelow(tag);
+        return tagTree.countBelow(tag);
     }
 
     public boolean isBelow(int tag, int other) throws IndexOutOfBoundsException {
         requireTag(tag);
         requireTag(other);
-        return tree.standsBelow(tag, other);
+        return tagTree.standsBelow(tag, other);
     }
 
     public int nearestAbove(int a, int b) throws IndexOutOfBoundsException {
         requireTag(a);
         requireTag(b);
-        return tree.lowestOf(tree.lines[a] & tree.lines[b]);
+        return tagTree.lowestOf(tagTree.lines[a] & tagTree.lines[b]);
     }
 
     public int dreamsWith(int tag) throws IndexOutOfBoundsException {
@@ -229,28 +229,28 @@ public final class DreamLedger {
     public boolean matches(int term, int dream) throws IndexOutOfBoundsException {
         requireTerm(term);
         requireDream(dream);
-        return isIn(dream, wanted.matched[term]);
+        return isIn(dream, termList.matched[term]);
     }
 
     public int matchesOf(int term) throws IndexOutOfBoundsException {
         requireTerm(term);
-        return Integer.bitCount(wanted.matched[term]);
+        return Integer.bitCount(termList.matched[term]);
     }
 
     public int mostVivid(int term) throws IndexOutOfBoundsException {
         requireTerm(term);
-        return mostVividOf(wanted.matched[term]);
+        return mostVividOf(termList.matched[term]);
     }
 
     public int commonTags(int term) throws IndexOutOfBoundsException {
         requireTerm(term);
-        return Integer.bitCount(tagsSharedBy(wanted.matched[term]));
+        return Integer.bitCount(tagsSharedBy(termList.matched[term]));
     }
 
     public boolean matchSame(int a, int b) throws IndexOutOfBoundsException {
         requireTerm(a);
         requireTerm(b);
-        return wanted.matched[a] == wanted.matched[b];
+        return termList.matched[a] == termList.matched[b];
     }
 
     public int coverSize(int term) throws IndexOutOfBoundsException {
@@ -270,7 +270,7 @@ public final class DreamLedger {
     // ---- the ledger
 
     public int tags() {
-        return tree.count;
+        return tagTree.count;
     }
 
     public int dreams() {
@@ -278,7 +278,7 @@ public final class DreamLedger {
     }
 
     public int terms() {
-        return wanted.count;
+        return termList.count;
     }
 
     public int nights() {
@@ -307,9 +307,9 @@ public final class DreamLedger {
         requireTerm(term);
         requireTag(tag);
         int best = NONE;
-        int most = Integer.bitCount(wanted.matched[term]);
-        for (int parent = 0; parent < tree.count; parent++) {
-            if (tree.canHang(tag, parent)) {
+        int most = Integer.bitCount(termList.matched[term]);
+        for (int parent = 0; parent < tagTree.count; parent++) {
+            if (tagTree.canHang(tag, parent)) {
                 int count = countMatchedIfUnder(term, tag, parent);
                 if (count > most) {
                     most = count;
@@ -333,18 +333,18 @@ public final class DreamLedger {
 
     public long digest() {
         long d = DIGEST_START;
-        d = digested(d, tree.count);
+        d = digested(d, tagTree.count);
         d = digested(d, dreamCount);
-        d = digested(d, wanted.count);
+        d = digested(d, termList.count);
         d = digested(d, nightCount);
         d = digested(d, countFadedAfter(0));
-        for (int tag = 0; tag < tree.count; tag++) {
+        for (int tag = 0; tag < tagTree.count; tag++) {
             d = digestedTag(d, tag);
         }
         for (int dream = 0; dream < dreamCount; dream++) {
             d = digestedDream(d, dream);
         }
-        for (int term = 0; term < wanted.count; term++) {
+        for (int term = 0; term < termList.count; term++) {
             d = digestedTerm(d, term);
         }
         return d;
@@ -353,7 +353,7 @@ public final class DreamLedger {
     // ---- what a call asks of its arguments
 
     private void requireTag(int tag) {
-        if (tag < 0 || tag >= tree.count) {
+        if (tag < 0 || tag >= tagTree.count) {
             throw new IndexOutOfBoundsException("there is no such tag");
         }
     }
@@ -365,14 +365,14 @@ public final class DreamLedger {
     }
 
     private void requireTerm(int term) {
-        if (term < 0 || term >= wanted.count) {
+        if (term < 0 || term >= termList.count) {
             throw new IndexOutOfBoundsException("there is no such term");
         }
     }
 
     private void requireParent(int tag) {
         requireTag(tag);
-        if (tree.parents[tag] == NONE) {
+        if (tagTree.parents[tag] == NONE) {
             throw new IllegalStateException("the tag has no parent");
         }
     }
@@ -383,7 +383,7 @@ public final class DreamLedger {
         if (tag == parent) {
             throw new IllegalArgumentException("both tags are the same");
         }
-        if (!tree.canHang(tag, parent)) {
+        if (!tagTree.canHang(tag, parent)) {
             throw new IllegalStateException("the parent is below the tag");
         }
     }
@@ -395,40 +395,40 @@ public final class DreamLedger {
     }
 
     private void requireRoomForTerm() {
-        if (wanted.count >= MOST_TERMS) {
+        if (termList.count >= MOST_TERMS) {
             throw new IllegalStateException("there are 20 terms");
         }
     }
 
     // ---- changes
 
-    private void hang(int tag, int parent) {
-        tree.hang(tag, parent);
+    private void moveTag(int tag, int parent) {
+        tagTree.hang(tag, parent);
         for (int dream = 0; dream < dreamCount; dream++) {
-            tagSets[dream] = tree.linesOf(ownTags[dream]);
+            tagSets[dream] = tagTree.linesOf(ownTags[dream]);
         }
         rematchTerms();
     }
 
-    private void own(int dream, int tagSet) {
+    private void setOwnTags(int dream, int tagSet) {
         ownTags[dream] = tagSet;
-        tagSets[dream] = tree.linesOf(tagSet);
+        tagSets[dream] = tagTree.linesOf(tagSet);
         rematchTerms();
     }
 
     private int addTerm(int kind, int first, int second) {
-        int term = wanted.add(kind, first, second);
+        int term = termList.add(kind, first, second);
         rematchTerms();
         return term;
     }
 
     /** Goes up from the first term, as a term is made of terms ahead of it. */
     private void rematchTerms() {
-        for (int term = 0; term < wanted.count; term++) {
-            if (wanted.kinds[term] == TAG_TERM) {
-                wanted.matched[term] = dreamsHaving(wanted.firsts[term]);
+        for (int term = 0; term < termList.count; term++) {
+            if (termList.kinds[term] == TAG_TERM) {
+                termList.matched[term] = dreamsHaving(termList.firsts[term]);
             } else {
-                wanted.combine(term, allDreams());
+                termList.combine(term, allDreams());
             }
         }
     }
@@ -449,7 +449,10 @@ public final class DreamLedger {
         return having;
     }
 
-    /** The latest dream shares its own tags with itself, so that it stays as vivid like those that are like it. */
+    /**
+     * Which dreams are like the latest one does not change as nights go by, so that all nights are
+     * taken at once; the latest one itself stays, as it is like itself.
+     */
     private int vividnessAfter(int dream, int nights) {
         boolean stays = (ownTags[dream] & ownTagsOfLatest()) != 0;
         return stays ? vividnesses[dream] : Math.max(0, vividnesses[dream] - nights);
@@ -492,28 +495,28 @@ public final class DreamLedger {
     }
 
     private int smallestCover(int term) {
-        int dreamSet = wanted.matched[term];
+        int dreamSet = termList.matched[term];
         for (int tag = 0; tag < MOST_TAGS; tag++) {
-            search.havers[tag] = dreamsHaving(tag) & dreamSet;
+            coverSearch.dreamsWithTag[tag] = dreamsHaving(tag) & dreamSet;
         }
-        return search.smallestOf(dreamSet);
+        return coverSearch.smallestOf(dreamSet);
     }
 
     /** Puts the tag there, looks, and puts it back: what terms match is drawn in one place alone. */
     private int countMatchedIfUnder(int term, int tag, int parent) {
-        int before = tree.parents[tag];
-        hang(tag, parent);
-        int count = Integer.bitCount(wanted.matched[term]);
-        hang(tag, before);
+        int before = tagTree.parents[tag];
+        moveTag(tag, parent);
+        int count = Integer.bitCount(termList.matched[term]);
+        moveTag(tag, before);
         return count;
     }
 
     // ---- the checksum
 
     private long digestedTag(long start, int tag) {
-        long d = digested(start, tree.parents[tag]);
-        d = digested(d, tree.countAbove(tag));
-        d = digested(d, tree.countBelow(tag));
+        long d = digested(start, tagTree.parents[tag]);
+        d = digested(d, tagTree.countAbove(tag));
+        d = digested(d, tagTree.countBelow(tag));
         return digested(d, Integer.bitCount(dreamsHaving(tag)));
     }
 
@@ -521,11 +524,11 @@ public final class DreamLedger {
         long d = digested(start, Integer.bitCount(tagSets[dream]));
         d = digested(d, vividnesses[dream]);
         d = digested(d, writtenIn[dream]);
-        return digestedSet(d, ownTags[dream], tree.count);
+        return digestedSet(d, ownTags[dream], tagTree.count);
     }
 
     private long digestedTerm(long start, int term) {
-        int dreamSet = wanted.matched[term];
+        int dreamSet = termList.matched[term];
         int cover = smallestCover(term);
         long d = digested(start, Integer.bitCount(dreamSet));
         d = digested(d, mostVividOf(dreamSet));
@@ -681,19 +684,21 @@ public final class DreamLedger {
         }
     }
 
-    /** The search for a smallest cover, over the dreams to cover that have each tag. */
+    /**
+     * The search for a smallest cover: which of the dreams to cover have each tag, and which have one
+     * of the tags from each on (none behind the last tag).
+     */
     private static final class CoverSearch {
-        private final int[] havers = new int[MOST_TAGS];
+        private final int[] dreamsWithTag = new int[MOST_TAGS];
         private final int[] coverable = new int[MOST_TAGS + 1];
 
         /** Tries sizes from the smallest on, so that the first cover found is a smallest one. */
         private int smallestOf(int dreamSet) {
-            coverable[MOST_TAGS] = 0;
             for (int tag = MOST_TAGS - 1; tag >= 0; tag--) {
-                coverable[tag] = coverable[tag + 1] | havers[tag];
+                coverable[tag] = coverable[tag + 1] | dreamsWithTag[tag];
             }
             for (int size = 0; size <= MOST_TAGS; size++) {
-                int cover = coverFrom(havers, coverable, 0, size, dreamSet);
+                int cover = coverFrom(dreamsWithTag, coverable, 0, size, dreamSet);
                 if (cover != NONE) {
                     return cover;
                 }
@@ -704,22 +709,24 @@ public final class DreamLedger {
         /**
          * A cover of the open dreams by at most that many tags, from a tag on; NONE if there is none.
          * A tag is taken before it is passed over, so that of several covers of one size the one
-         * with the smallest first tags is found. A tag that covers no open dream is in no smallest cover.
+         * with the smallest first tags is found. A tag of a smallest cover has a dream that no other
+         * tag of the cover has, so that one without an open dream is passed over.
          */
-        private static int coverFrom(int[] havers, int[] coverable, int tag, int size, int open) {
+        private static int coverFrom(int[] dreamsWithTag, int[] coverable, int tag, int size, int open) {
             if (open == 0) {
                 return 0;
             }
             if (size <= 0 || tag < 0 || tag >= MOST_TAGS || (open & ~coverable[tag]) != 0) {
                 return NONE;
             }
-            if ((open & havers[tag]) != 0) {
-                int rest = coverFrom(havers, coverable, tag + 1, size - 1, open & ~havers[tag]);
+            if ((open & dreamsWithTag[tag]) != 0) {
+                int left = open & ~dreamsWithTag[tag];
+                int rest = coverFrom(dreamsWithTag, coverable, tag + 1, size - 1, left);
                 if (rest != NONE) {
                     return rest | 1 << tag;
                 }
             }
-            return coverFrom(havers, coverable, tag + 1, size, open);
+            return coverFrom(dreamsWithTag, coverable, tag + 1, size, open);
         }
     }
 }

@@ -44,6 +44,7 @@ public final class PromiseTests {
         promise41BestParent();
         promise42MeanVividness();
         promise43Digest();
+        fullLedger();
         Checks.end();
     }
 
@@ -768,6 +769,7 @@ public final class PromiseTests {
         Checks.same("bestParent, it would match as many only", x.bestParent(0, 1), -1);
         Checks.same("bestParent(3, 4), the most", x.bestParent(3, 4), 3);
         Checks.same("bestParent of a without term", x.bestParent(6, 2), 4);
+        Checks.same("bestParent, the first tag", x.bestParent(0, 4), 0);
         Checks.same("bestParent changes nothing", x.digest(), before);
         x.addTag();
         x.putUnder(5, 6);
@@ -780,6 +782,10 @@ public final class PromiseTests {
         }
         Checks.noIndex("bestParent, the first number without a term", x, () -> x.bestParent(7, 0));
         Checks.noIndex("bestParent, the first number without a tag", x, () -> x.bestParent(0, 8));
+        DreamLedger full = Checks.withTags(16);
+        full.addDream(3, 5);
+        full.addTagTerm(15);
+        Checks.same("bestParent, the last of 16", full.bestParent(0, 3), 15);
         DreamLedger one = Checks.withTags(1);
         one.addTagTerm(0);
         Checks.same("bestParent, no other tag", one.bestParent(0, 0), -1);
@@ -821,6 +827,31 @@ public final class PromiseTests {
             due = due * 31 + each;
         }
         Checks.same("digest, number by number", y.digest(), due);
+    }
+
+    /** As many tags, dreams and terms as there can be. */
+    private static void fullLedger() {
+        DreamLedger x = longLine();
+        for (int dream = 0; dream < 24; dream++) {
+            x.addDream(dream % 16, 1 + dream % 9);
+        }
+        x.addTagTerm(8);
+        for (int term = 1; term < 20; term++) {
+            x.addWithoutTerm(term - 1);
+        }
+        Checks.same("full: dreamsWith", x.dreamsWith(15), 24);
+        Checks.same("full: matchesOf", x.matchesOf(0), 17);
+        Checks.same("full: matchesOf without", x.matchesOf(19), 7);
+        Checks.same("full: mostVivid", x.mostVivid(18), 8);
+        Checks.same("full: commonTags", x.commonTags(18), 8);
+        Checks.same("full: coverSize", x.coverSize(19), 1);
+        Checks.same("full: coverTag", x.coverTag(19, 0), 15);
+        Checks.same("full: meanVividness", x.meanVividness(), 111.0 / 24);
+        Checks.same("full: matchesIfUnder", x.matchesIfUnder(19, 8, 15), 7);
+        Checks.same("full: fadedAfter", x.fadedAfter(30), 22);
+        Checks.same("full: passNights", x.passNights(9), 22);
+        Checks.same("full: fadedDreams", x.fadedDreams(), 22);
+        Checks.same("full: digest", x.digest(), digestOf(x));
     }
 
     /** The digest that is due by the document, from the other answers of the ledger. */
