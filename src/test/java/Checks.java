@@ -1,13 +1,17 @@
 import java.util.ArrayList;
+import java.util.LinkedHashMap;
 import java.util.List;
+import java.util.Map;
 
-/** What the tests share: comparing answers, asking for exceptions, and ledgers to begin with. */
+/** What the tests share: comparing answers, asking for exceptions, and telling what was wrong. */
 final class Checks {
     /** Numbers that are neither a tag, a dream nor a term of any ledger; some would wrap around in a shift. */
     static final int[] NEVER = {-1, -2, -31, -32, 24, 31, 32, 33, 64, 1000, Integer.MIN_VALUE, Integer.MAX_VALUE};
 
+    private static final int SHOWN = 10;
+    private static final Map<String, List<String>> WRONG = new LinkedHashMap<>();
+    private static String label = "";
     private static int checked = 0;
-    private static final List<String> WRONG = new ArrayList<>();
 
     private Checks() {
     }
@@ -16,28 +20,42 @@ final class Checks {
         void make();
     }
 
+    interface Question {
+        Object ask();
+    }
+
+    /** What is wrong from now on is told under this label. */
+    static void label(String under) {
+        label = under;
+    }
+
+    /** A test that breaks off is wrong; those behind it are run all the same. */
+    static void run(Call test) {
+        String thrown = thrownBy(test);
+        check("the test broke off by " + thrown, thrown.equals("nothing"));
+    }
+
     static void same(String what, long got, long due) {
-        checked++;
-        if (got != due) {
-            WRONG.add(what + " answered " + got + ", due is " + due);
-        }
+        check(what + " answered " + got + ", due is " + due, got == due);
     }
 
     static void same(String what, boolean got, boolean due) {
-        same(what, got ? 1 : 0, due ? 1 : 0);
+        check(what + " answered " + got + ", due is " + due, got == due);
     }
 
     static void same(String what, double got, double due) {
-        checked++;
-        if (Double.doubleToLongBits(got) != Double.doubleToLongBits(due)) {
-            WRONG.add(what + " answered " + got + ", due is " + due);
-        }
+        boolean asDue = Double.doubleToLongBits(got) == Double.doubleToLongBits(due);
+        check(what + " answered " + got + ", due is " + due, asDue);
     }
 
     static void same(String what, String got, String due) {
+        check(what + ": " + got + ", due is " + due, got.equals(due));
+    }
+
+    private static void check(String wrong, boolean holds) {
         checked++;
-        if (!got.equals(due)) {
-            WRONG.add(what + ": " + got + ", due is " + due);
+        if (!holds) {
+            WRONG.computeIfAbsent(label, each -> new ArrayList<>()).add(wrong);
         }
     }
 
@@ -60,59 +78,38 @@ final class Checks {
         refused(what, x, IllegalStateException.class, call);
     }
 
-    private static String thrownBy(Call call) {
-        try {
+    /** The name of the exception that the call throws. */
+    static String thrownBy(Call call) {
+        return answerOf(() -> {
             call.make();
             return "nothing";
+        });
+    }
+
+    /** The answer, or the name of the exception in its place. */
+    static String answerOf(Question question) {
+        try {
+            return String.valueOf(question.ask());
         } catch (RuntimeException | Error e) {
             return e.getClass().getSimpleName();
         }
     }
 
-    /** A ledger with that many tags, none under another one. */
-    static DreamLedger withTags(int count) {
-        DreamLedger x = new DreamLedger();
-        for (int tag = 0; tag < count; tag++) {
-            x.addTag();
-        }
-        return x;
-    }
-
-    /** Tags 0 to 5: 1 and 2 under 0, 3 under 1, 5 under 4. */
-    static DreamLedger withTree() {
-        DreamLedger x = withTags(6);
-        x.putUnder(1, 0);
-        x.putUnder(2, 0);
-        x.putUnder(3, 1);
-        x.putUnder(5, 4);
-        return x;
-    }
-
-    /** On the tree: dream 0 with own tags 3 and 5, 1 with 2, 2 with 4, 3 with 0; terms 0 to 5 are the tags. */
-    static DreamLedger withDreams() {
-        DreamLedger x = withTree();
-        x.addDream(3, 6);
-        x.tagDream(0, 5);
-        x.addDream(2, 8);
-        x.addDream(4, 8);
-        x.addDream(0, 3);
-        for (int tag = 0; tag < 6; tag++) {
-            x.addTagTerm(tag);
-        }
-        return x;
-    }
-
     /** Prints what was wrong, and ends with exit code 1 if there was something. */
     static void end() {
-        int shown = 0;
-        for (String wrong : WRONG) {
-            if (shown < 40) {
-                System.out.println(wrong);
+        int wrong = 0;
+        for (Map.Entry<String, List<String>> under : WRONG.entrySet()) {
+            List<String> all = under.getValue();
+            wrong += all.size();
+            for (String each : all.subList(0, Math.min(all.size(), SHOWN))) {
+                System.out.println(under.getKey() + each);
             }
-            shown++;
+            if (all.size() > SHOWN) {
+                System.out.println(under.getKey() + "and " + (all.size() - SHOWN) + " more");
+            }
         }
-        System.out.println(checked + " answers compared, " + WRONG.size() + " wrong");
-        if (!WRONG.isEmpty()) {
+        System.out.println(checked + " answers compared, " + wrong + " wrong");
+        if (wrong > 0) {
             System.exit(1);
         }
     }

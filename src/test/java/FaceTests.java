@@ -14,7 +14,6 @@ import java.util.regex.Pattern;
 
 /** The class has the face that the document shows, and keeps to the rules of LANGUAGE.md that can be seen here. */
 public final class FaceTests {
-    private static final Path DOCUMENT = Path.of("../shared/DOC.md");
     private static final Path PROGRAM = Path.of("src/main/java/DreamLedger.java");
 
     private FaceTests() {
@@ -31,7 +30,7 @@ public final class FaceTests {
     }
 
     private static void faceIsTheDocuments() throws IOException {
-        List<String> lines = Files.readAllLines(DOCUMENT);
+        List<String> lines = Files.readAllLines(Document.FILE);
         Set<String> due = new TreeSet<>();
         int from = lines.indexOf("public final class DreamLedger {");
         for (int line = from + 1; from >= 0 && !lines.get(line).equals("}"); line++) {
