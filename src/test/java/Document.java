@@ -85,12 +85,23 @@ final class Document {
         for (String paragraph : section.trim().split("\n\\s*\n")) {
             String told = paragraph.replaceAll("\\s+", " ").trim();
             told = told.replaceFirst("^`[^`]*`: ", "").replaceFirst("^(Tags|Dreams|Nights|Terms|Covers)\\. ", "");
-            boolean tellsAnArgument = told.startsWith("- ");
-            boolean tellsTheOrder = told.startsWith("Ahead of the calls");
-            if (!tellsAnArgument && !tellsTheOrder && !told.isEmpty()) {
+            if (told.startsWith("- ")) {
+                sentences.addAll(argumentsOf(told.substring(2)));
+            } else if (!told.startsWith("Ahead of the calls") && !told.isEmpty()) {
                 sentences.addAll(List.of(told.split("(?<=\\.) (?=[A-Z])")));
             }
         }
         return sentences;
+    }
+
+    /** Of what is told of arguments, that which names a number; the rest only says what they are. */
+    private static List<String> argumentsOf(String told) {
+        List<String> naming = new ArrayList<>();
+        for (String argument : told.split(" - (?=`)")) {
+            if (argument.matches(".*\\d.*")) {
+                naming.add(argument);
+            }
+        }
+        return naming;
     }
 }

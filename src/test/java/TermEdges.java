@@ -33,6 +33,7 @@ final class TermEdges {
         Checks.run(TermEdges::matchSameNoTerm);
         Checks.run(TermEdges::coverSize);
         Checks.run(TermEdges::coverTag);
+        Checks.run(TermEdges::coverTagPlace);
         Checks.run(TermEdges::coverTagNoTerm);
         Checks.run(TermEdges::coverTagNoPlace);
         Checks.run(TermEdges::questionsOfNoTerm);
@@ -412,6 +413,16 @@ final class TermEdges {
         Checks.same("the last place", y.coverTag(Ledgers.ALL, 2), 15);
         DreamLedger one = Ledgers.withOne();
         Checks.same("the only tag", one.coverTag(0, 0), 0);
+    }
+
+    private static void coverTagPlace() {
+        Document.promise(33, "`place`: a place in its smallest cover, from 0, by the numbers of tags");
+        DreamLedger x = Ledgers.withOwnTags(16, new int[][] {{9}, {15}, {3}});
+        Checks.noIndex("place -1", x, () -> x.coverTag(Ledgers.ALL, -1));
+        Checks.same("place 0", x.coverTag(Ledgers.ALL, 0), 3);
+        Checks.same("place 1", x.coverTag(Ledgers.ALL, 1), 9);
+        Checks.same("place 2", x.coverTag(Ledgers.ALL, 2), 15);
+        Checks.noIndex("place 3", x, () -> x.coverTag(Ledgers.ALL, 3));
     }
 
     private static final String NO_TERM_OR_PLACE =

@@ -202,6 +202,9 @@ final class WordEdges {
         DreamLedger none = beforeTheNight(0);
         none.passNights(1);
         Checks.same("from 0", none.vividnessOf(0), 0);
+        DreamLedger many = beforeTheNight(9);
+        many.passNights(8);
+        Checks.same("from 9, eight nights", many.vividnessOf(0), 1);
         DreamLedger last = beforeTheNight(1);
         last.passNights(2);
         Checks.same("from 1, two nights", last.vividnessOf(0), 0);
